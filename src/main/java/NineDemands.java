@@ -613,6 +613,13 @@ public final class NineDemands {
         return (mask >> (choice - 1) & 1) != 0;
     }
 
+    private static int leastOf(int mask) {
+        if (holds(mask, A)) {
+            return A;
+        }
+        return holds(mask, B) ? B : BOTH;
+    }
+
     private int pairsOf(int kind, int i) {
         switch (kind) {
             case ALIKE:
@@ -1272,7 +1279,7 @@ public final class NineDemands {
             for (int k = 0; k < HALLS; k++) {
                 int mask = (more >> k & 1) != 0 ? 0 : leftBeside(k, more);
                 if (mask != 0) {
-                    found[k] = Integer.numberOfTrailingZeros(mask) + 1;
+                    found[k] = leastOf(mask);
                     more |= 1 << k;
                 }
             }
@@ -1293,8 +1300,11 @@ public final class NineDemands {
         /** The next greater number with as many bits. */
         private static int nextOfSize(int bits) {
             int low = bits & -bits;
+            if (low == 0) {
+                return bits;
+            }
             int up = bits + low;
-            return up | (bits ^ up) >>> (2 + Integer.numberOfTrailingZeros(low));
+            return up | (bits ^ up) / low >> 2;
         }
     }
 
@@ -1369,7 +1379,7 @@ public final class NineDemands {
         /** For all masks of h and of k, at 8 * h's + k's: each from the one with a bit less. */
         private void pairUp(int h, int k, int[] pairs, int[] near) {
             for (int some = 0; some < 8; some++) {
-                int c = Integer.numberOfTrailingZeros(some | 8) + 1;
+                int c = leastOf(some);
                 int rest = some & (some - 1);
                 for (int others = 0; others < 8; others++) {
                     int at = 8 * some + others;

@@ -130,19 +130,24 @@ public final class FaceTests {
         methodLengths(source);
     }
 
-    /** Members of the class and of the classes inside it are told by how far they are set in. */
+    /** A method begins with a line of its own that ends in a brace, and ends with one set in as far. */
     private static void methodLengths(String source) {
-        int start = 0;
-        int number = 0;
-        for (String line : source.split("\n")) {
-            number++;
-            if (line.matches("    (    )?(public|private|static|int|void|boolean|[A-Z])[^;=]*\\{")) {
-                start = number;
+        Pattern head = Pattern.compile("( {4}| {8})(?!if|for|while|switch)[^ }].*\\) \\{");
+        String[] lines = source.split("\n");
+        int methods = 0;
+        for (int start = 0; start < lines.length; start++) {
+            Matcher found = head.matcher(lines[start]);
+            if (!found.matches() || lines[start].contains(" class ")) {
+                continue;
             }
-            if (line.matches("    (    )?\\}") && start > 0 && !line.equals("    }")) {
-                due(number - start <= 60, "a method of " + (number - start) + " lines ends at " + number);
+            int end = start;
+            while (!lines[end].equals(found.group(1) + "}")) {
+                end++;
             }
+            methods++;
+            due(end - start < 60, "a method of " + (end - start + 1) + " lines: " + lines[start].trim());
         }
+        due(methods > FACE.length, "only " + methods + " methods were found");
     }
 
     public static void main(String[] args) throws Exception {

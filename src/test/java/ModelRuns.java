@@ -8,6 +8,8 @@ public final class ModelRuns {
         "d=c|c=3", "!(s=3&c=1&d=2)", "i=0|d=c", "i=1|c=p+1", "c%2=d%2", "c*d%4>0", "c-d", "c/d=0|d=1",
         "(c=1)+(d=1)<2", "a*b=0|c=3", "r=2|c=r+1", "a>b&c=1|b>a&c=2|c=3", "c=p+1", "c=q+1", "!(c=3)",
         "(s=2)+(c=d)", "!(c=d)|c=3", "d=3|d=w+1", "c=1|d=2", "c>d|c=1", "s=3|c=1|d=2", "a=1|c<3", "!!!!!c=0",
+        "!(c=2&d=3)", "!(c=d)|i=2", "(c+d)%3", "(c+d+i)%3", "(c*d+w)%3", "(c+2*d)%4", "(c+d+a)%3", "s=2|(c+d)%3",
+        "s=2|(c+d+i)%3", "!(c=1&d=1)", "!(c=3&d=3)", "!(c=2&d=2)",
     };
     private static final String SIGNS = "abcspqrdwi0123456789!()+-*/%&|<=>x ";
 
@@ -194,7 +196,7 @@ public final class ModelRuns {
 
     public static void main(String[] args) {
         int from = args.length > 0 ? Integer.parseInt(args[0]) : 0;
-        int to = args.length > 1 ? Integer.parseInt(args[1]) : 60;
+        int to = args.length > 1 ? Integer.parseInt(args[1]) : 150;
         for (int run = from; run < to; run++) new ModelRuns(run).go();
         System.out.println(wrong == 0 ? "all answers are as the plain village's" : wrong + " answers are not as due");
         if (wrong != 0) System.exit(1);

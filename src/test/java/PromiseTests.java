@@ -466,6 +466,7 @@ public final class PromiseTests {
         due("OUT", 0, x.rules(31));
         due("SET 32", BEYOND, x.rules(32));
         due("SET -1", BEYOND, x.rules(-1));
+        colours();
         promise = 19;
         due("any", 14, x.may(4, 5));
         due("A alone", 2, x.may(1, 4));
@@ -493,6 +494,35 @@ public final class PromiseTests {
         due("SET 32", BEYOND, x.word(32));
         due("not OUT but no FORM", 0, law(x = new NineDemands(), 0, 0, "c=1+(r=1&p=0)"));
         due("not OUT but no FORM", NONE, x.word(1));
+    }
+
+    /** Where no two HALLS that are moved to one another choose alike, RULES are known as colourings. */
+    private static void colours() {
+        NineDemands x = new NineDemands();
+        law(x, 1, 0, "!(c=d)");
+        due("3 colours for a square and a cube", 18 * 114, x.rules(1));
+        due("half of the halls may stay", 6, x.near(1));
+        law(x, 1, 0, "s=3|!(c=d)");
+        due("for the square", 18 * 6561, x.rules(2));
+        due("half of the square may stay", 2, x.near(2));
+        law(x, 1, 0, "c=d");
+        due("all alike", 9, x.rules(4));
+        due("can't be both", 0, x.rules(5));
+        law(x, 4, 0, "c=d");
+        due("as if nobody came", 81, x.rules(8));
+        law(x, 4, 0, "!(c=d)");
+        due("never as if nobody came", 12 * 12 * 12 * 12, x.rules(16));
+        due("all alike, and others who come", 6, x.rules(20));
+        due("the square and what comes", 18 * 16 * 16, x.rules(18));
+        x.law(5, 0);
+        due("2 colours", 4, x.rules(33));
+        due("the first of them", 2, x.find(33, 1));
+        due("the first of them", 1, x.find(33, 3));
+        due("the first of them", 1, x.find(33, 9));
+        due("either", 6, x.may(33, 9));
+        due("of the square and what comes", 2 * 16 * 16 / 16 / 16, x.rules(50));
+        x.law(3, 0);
+        due("TURNED can't be with 2 colours of a square", 0, x.rules(97));
     }
 
     private static void p22() {
@@ -639,11 +669,15 @@ public final class PromiseTests {
         due("c=1 needs no other", 6, x.spare(7));
         due("none", 0, x.spare(6));
         due("none of none", 0, x.spare(0));
+        due("a LAW that follows isn't of the SET", 2, x.spare(3));
+        due("the least LAW", 1, five().spare(29));
         due("both follow, as both are OUT without", 6, x.spare(15));
         due("SET 16", BEYOND, x.spare(16));
         promise = 29;
         due("same", 1, x.same(1, 7));
         due("unlike", 0, x.same(1, 6));
+        due("unlike, though both are less than all", 0, x.same(2, 4));
+        due("same with nothing in common", 1, x.same(9, 9));
         due("as many, but others", 0, x.same(1, 8));
         due("both OUT", 1, x.same(9, 15));
         due("SET 16", BEYOND, x.same(16, 0));
@@ -802,6 +836,7 @@ public final class PromiseTests {
         x.law(0, 1);
         x.price(0, 50);
         x.form(0);
+        x.learn(0);
         x.tell(3);
         x.sheet(0, 8, 3);
         x.voice(4, 2, 1);
@@ -817,6 +852,7 @@ public final class PromiseTests {
         feed5(x);
         due("THE TAPE's bytes", 5, x.law(0, 1));
         due("c=1|c=2 is so", 1, x.so(5, 0, 2, 0));
+        due("the numbers that wait", 2, x.learn(0));
         due("another LAW 5 with other RULES", 4096, x.rules(32));
         due("LAWS", 5, x.restore());
         x.law(3, 1);
