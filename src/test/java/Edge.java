@@ -3,6 +3,7 @@ import java.lang.reflect.Method;
 import java.util.ArrayList;
 import java.util.Comparator;
 import java.util.List;
+import java.util.function.Supplier;
 
 /** What the tests of single sentences share: how they are run, and how villages are made for them. */
 final class Edge {
@@ -151,6 +152,29 @@ final class Edge {
         for (int k = 1; k <= 5; k++) {
             due("told(" + k + ")", want[k - 1], x.told(k));
         }
+    }
+
+    /** What the LAWS of a village don't allow, read CASE by CASE: rows of h, k, c, d (k is h if there is none). */
+    static List<int[]> notSo(Supplier<NineDemands> made) {
+        List<int[]> all = new ArrayList<>();
+        int laws = made.get().count(0);
+        for (int law = 0; law < laws; law++) {
+            NineDemands x = made.get();
+            int cases = x.as(law, 0);
+            for (int i = 0; i < cases; i++) {
+                int h = x.part(law, i, 0);
+                int k = x.part(law, i, 1);
+                for (int two = 0; two < 9; two++) {
+                    int c = 1 + two / 3;
+                    int d = 1 + two % 3;
+                    boolean asked = k >= 0 || c == d;
+                    if (asked && x.so(law, i, c, d) == 0) {
+                        all.add(new int[] {h, k >= 0 ? k : h, c, d});
+                    }
+                }
+            }
+        }
+        return all;
     }
 
     /** How many PEOPLE a HALL has, and what each of them wants, told here once more. */

@@ -1,3 +1,5 @@
+import java.util.List;
+
 /** Terms 4 (SETS, THE FIRST RULE, FORMS) and promises 16 to 21, sentence by sentence: rules by a set of laws. */
 public final class EdgeRulesTests {
     private static final int[] NO_HALLS = {Edge.LEAST, -1, 12, 13, Edge.GREATEST};
@@ -48,6 +50,10 @@ public final class EdgeRulesTests {
         Edge.law(x, 0, 0, "c>1");
         dueFirst(x, 2, "222222222222");
         dueFirst(x, 3, "233223323223");
+        Edge.law(x, 1, 0, "s=3|c>1");
+        dueFirst(x, 4, "222211111111");
+        Edge.law(x, 1, 0, "s=2|c>1");
+        dueFirst(x, 8, "111122222222");
     }
 
     @Says(in = "Terms 4", words = "the least CHOICE in the first HALL in which two are unlike")
@@ -236,6 +242,83 @@ public final class EdgeRulesTests {
         x.law(3, 0);
         Edge.due("rules(7)", 0, x.rules(7));
         Edge.due("rules(5)", 64, x.rules(5));
+    }
+
+    @Says(in = "Promise 18", words = "How many RULES FIT by a SET")
+    static void p18BehindOtherQuestions() {
+        NineDemands x = Edge.five();
+        x.find(7, 0);
+        Edge.due("rules(7) behind find(7, 0)", 27, x.rules(7));
+        x.small(6);
+        Edge.due("rules(6) behind small(6)", 243, x.rules(6));
+        x.near(5);
+        Edge.due("rules(5) behind near(5)", 243, x.rules(5));
+        x.may(3, 0);
+        Edge.due("rules(3) behind may(3, 0)", 6561, x.rules(3));
+        x.give(31, 0);
+        Edge.due("rules(30) behind give(31, 0)", 0, x.rules(30));
+        Edge.due("rules(23) behind give(31, 0)", 8, x.rules(23));
+    }
+
+    /** LAW 0 is MOVED and 1 COMES. */
+    private static NineDemands uneven(String moved, String comes) {
+        NineDemands x = new NineDemands();
+        Edge.law(x, 1, 1, moved);
+        Edge.law(x, 4, 1, comes);
+        return x;
+    }
+
+    private static boolean fits(int[] rule, List<int[]> notSo) {
+        for (int[] no : notSo) {
+            if (rule[no[0]] == no[2] && rule[no[1]] == no[3]) {
+                return false;
+            }
+        }
+        return true;
+    }
+
+    /** Writes out all RULES and holds what is said of them against that. */
+    private static void dueByAllRules(String moved, String comes, String told) {
+        List<int[]> notSo = Edge.notSo(() -> uneven(moved, comes));
+        int rules = 0;
+        int near = 99;
+        int[] may = new int[12];
+        int[] first = null;
+        for (int n = 0; n < 531441; n++) {
+            int[] rule = new int[12];
+            int off = 0;
+            for (int h = 11, rest = n; h >= 0; h--, rest /= 3) {
+                rule[h] = 1 + rest % 3;
+                off += rule[h] == told.charAt(h) - '0' ? 0 : 1;
+            }
+            if (fits(rule, notSo)) {
+                rules++;
+                near = Math.min(near, off);
+                first = first == null ? rule : first;
+                for (int h = 0; h < 12; h++) {
+                    may[h] |= 1 << rule[h];
+                }
+            }
+        }
+        NineDemands x = uneven(moved, comes);
+        Edge.tellRule(x, told);
+        String laws = moved + " and " + comes;
+        Edge.due("rules(3) by " + laws, rules, x.rules(3));
+        Edge.due("near(3) by " + laws, rules == 0 ? Edge.NONE : near, x.near(3));
+        for (int h = 0; h < 12; h++) {
+            Edge.due("may(3, " + h + ") by " + laws, may[h], x.may(3, h));
+            Edge.due("find(3, " + h + ") by " + laws, rules == 0 ? Edge.NONE : first[h], x.find(3, h));
+        }
+    }
+
+    @Says(in = "Promise 18", words = "How many RULES FIT by a SET")
+    static void p18AllRulesWrittenOut() {
+        dueByAllRules("(c*3+d*5+p+q*2+i*3)%7", "(c+d*2+p+q+w)%5", "123321123321");
+        dueByAllRules("(c*5+d+p*3+q*2+i)%4|s=3", "(c*2+d*3+p*2+q+w)%4", "312222131213");
+        dueByAllRules("(c+d*3+p*5+q*3+r)%5", "(c*7+d*5+p*3+q*2+w)%6", "222211113333");
+        dueByAllRules("(c*c+d*2+a+i)%4", "(c*3+d+a+w*2)%3", "333333333333");
+        dueByAllRules("(c*2+d+a*3+w)%6", "!(c=d)|w&p", "111111111111");
+        dueByAllRules("c<d+2-p*q|s=3|i=0", "c=d|w=p", "131313131313");
     }
 
     @Says(in = "Promise 18", words = "BEYOND")

@@ -1,3 +1,5 @@
+import java.util.List;
+
 /** Terms 4 (THE SHOWING to GIVEN UP) and promises 22 to 29, sentence by sentence: that there is none. */
 public final class EdgeShowingTests {
     /** None of these is a SET where there are five LAWS. */
@@ -494,6 +496,16 @@ public final class EdgeShowingTests {
     }
 
     @Says(in = "Promise 24", words = "SMALL (bits)")
+    static void p24OneAlone() {
+        NineDemands x = Edge.withTexts("0", "1", "c=1", "c=2", "0");
+        Edge.due("LAW 0", 1, x.small(31));
+        Edge.due("LAW 0", 1, x.small(3));
+        Edge.due("LAW 0", 1, x.small(1));
+        Edge.due("LAW 4, though 2 and 3 are less as bits", 16, x.small(30));
+        Edge.due("2 and 3", 12, x.small(14));
+    }
+
+    @Says(in = "Promise 24", words = "SMALL (bits)")
     static void p24AllEight() {
         NineDemands x = allEightNeeded();
         Edge.due("all eight are needed", 255, x.small(255));
@@ -540,6 +552,80 @@ public final class EdgeShowingTests {
         }
         NineDemands x = Edge.five();
         Edge.due("few(31)", 6, x.few(31));
+    }
+
+    @Says(in = "Promise 25", words = "FEW: HALLS as bits")
+    static void p25OneSetBehindAnother() {
+        NineDemands x = allEightNeeded();
+        int halls = 1 | 1 << 3 | 1 << 4 | 1 << 5 | 1 << 7 | 1 << 11;
+        Edge.due("few(255)", halls, x.few(255));
+        Edge.due("rules(0)", 531441, x.rules(0));
+        Edge.due("few(255) behind rules(0)", halls, x.few(255));
+        NineDemands y = ruledByOne();
+        Edge.law(y, 0, 1, "s=2|b<3");
+        Edge.due("few(4)", 2048, y.few(4));
+        Edge.due("few(3) behind few(4)", 6, y.few(3));
+        Edge.due("few(7) behind few(3)", 2048, y.few(7));
+        Edge.due("few(3) behind few(7)", 6, y.few(3));
+    }
+
+    private static boolean fitsOn(int halls, int h, int[] rule, List<int[]> notSo) {
+        if (h == 12) {
+            return true;
+        }
+        if ((halls >> h & 1) == 0) {
+            return fitsOn(halls, h + 1, rule, notSo);
+        }
+        for (rule[h] = 1; rule[h] <= 3; rule[h]++) {
+            boolean so = true;
+            for (int[] no : notSo) {
+                boolean counts = no[0] <= h && no[1] <= h && (halls >> no[0] & halls >> no[1] & 1) != 0;
+                so = so && !(counts && rule[no[0]] == no[2] && rule[no[1]] == no[3]);
+            }
+            if (so && fitsOn(halls, h + 1, rule, notSo)) {
+                return true;
+            }
+        }
+        return false;
+    }
+
+    private static NineDemands uneven(String moved, String comes, int kind) {
+        NineDemands x = new NineDemands();
+        Edge.law(x, 1, 1, moved);
+        Edge.law(x, 4, 1, comes);
+        if (kind > 0) {
+            x.law(kind, 1);
+        }
+        return x;
+    }
+
+    /** Tries HALLS, the fewest first, then the least as bits, until nothing FITS. */
+    private static void dueFew(String moved, String comes, int kind) {
+        List<int[]> notSo = Edge.notSo(() -> uneven(moved, comes, kind));
+        NineDemands x = uneven(moved, comes, kind);
+        int want = Edge.STATE;
+        for (int size = 0; size <= 12 && want < 0; size++) {
+            for (int halls = 0; halls < 4096 && want < 0; halls++) {
+                if (Integer.bitCount(halls) == size && !fitsOn(halls, 0, new int[12], notSo)) {
+                    want = halls;
+                }
+            }
+        }
+        Edge.due("few() by " + moved + ", " + comes + ", KIND " + kind, want, x.few((1 << x.count(0)) - 1));
+    }
+
+    @Says(in = "Promise 25", words = "FEW: HALLS as bits")
+    static void p25AllHallsTried() {
+        dueFew("(c*1+d*7+p*3+q*2+i*2)%3", "(c*6+d*5+p*3+q*2+w*2)%5", 0);
+        dueFew("(c*4+d*1+p*0+q*1+i*1)%3", "(c*4+d*1+p*3+q*3+w*0)%4", 0);
+        dueFew("(c*6+d*4+p*1+q*3+i*1)%5", "(c*3+d*1+p*0+q*2+w*0)%3", 0);
+        dueFew("(c*3+d*2+p*2+q*0+i*0)%5", "(c*5+d*3+p*3+q*1+w*1)%6", 0);
+        dueFew("(c*7+d*6+p*0+q*3+i*0)%4", "(c*7+d*6+p*3+q*2+w*1)%5", 2);
+        dueFew("(c*6+d*6+p*3+q*1+i*1)%5", "(c*3+d*2+p*2+q*2+w*2)%4", 3);
+        dueFew("(c*4+d*3+p*0+q*1+i*1)%5", "(c*7+d*3+p*3+q*1+w*0)%5", 3);
+        dueFew("(c*5+d*4+p*0+q*0+i*0)%3", "(c*3+d*7+p*0+q*1+w*1)%4", 5);
+        dueFew("(c*4+d*5+p*3+q*1+i*1)%3", "(c*4+d*1+p*2+q*3+w*0)%6", 5);
+        dueFew("(c*3+d*5+p+q*2+i*3)%7", "(c+d*2+p+q+w)%5", 0);
     }
 
     @Says(in = "Promise 25", words = "BEYOND")

@@ -248,7 +248,7 @@ public final class EdgeVoicesTests {
     static void p32AllNothing() {
         for (int bits : new int[] {8, 16, 32}) {
             NineDemands x = new NineDemands();
-            Edge.sheet(x, 0, bits, 1, 1, 1);
+            Edge.sheet(x, 0, bits, 1, 1, 1, 1, 1, 1);
             Edge.due("again", 1, x.sheet(0, bits, 4));
             for (int i = 0; i < 4; i++) {
                 Edge.due("number " + i + " is 0", Edge.KIND, x.block(0));
@@ -584,6 +584,29 @@ public final class EdgeVoicesTests {
         Edge.due("THE TAPE is c=2", 5, x.law(0, 0));
         Edge.due("THE TAPE is c=2", 1, x.so(5, 0, 2, 0));
         Edge.due("THE TAPE is c=2", 0, x.so(5, 0, 1, 0));
+    }
+
+    @Says(in = "Promise 35", words = "is kept as an IMAGE")
+    static void p35OtherBytesAndNumbersSince() {
+        NineDemands x = new NineDemands();
+        Edge.feed(x, "c=3");
+        x.tell(1);
+        x.tell(1);
+        x.tell(2);
+        x.image();
+        x.law(0, 0);
+        x.learn(0);
+        Edge.feed(x, "abcspqr");
+        for (int n = 0; n < 7; n++) {
+            x.tell(9);
+        }
+        Edge.due("restore()", 0, x.restore());
+        Edge.due("bytes", 3, x.count(3));
+        Edge.due("THE TAPE is c=3", 0, x.law(0, 0));
+        Edge.due("c=3 with both", 1, x.so(0, 0, 3, 1));
+        Edge.due("c=3 with B", 0, x.so(0, 0, 2, 1));
+        Edge.due("numbers that wait", 3, x.count(4));
+        Edge.due("they are 1, 1, 2", 3, x.learn(0));
     }
 
     @Says(in = "Promise 35", words = "(but SHEETS, THE TRACE, what told() tells, and how often this was done)")
