@@ -54,8 +54,8 @@ public final class NineDemands {
     private final int[] errors = new int[KIND + 1];
     private final Sheet[] sheets = new Sheet[SHEETS];
     private final Text text = new Text();
-    private final Seeker seeker = new Seeker();
-    private final Tally tally = new Tally(seeker.go, seeker.left);
+    private final Tally tally = new Tally();
+    private final Seeker seeker = tally.seeker;
     private final Showing showing = new Showing();
     private final Voices voices = new Voices();
     private final int[] formed = new int[HALLS];
@@ -1318,8 +1318,9 @@ public final class NineDemands {
         private static final int FAR = 99;
         private static final int TABLE = 64;
 
-        private final int[] go;
-        private final int[] allowed;
+        /** What is counted is what this one has taken. */
+        final Seeker seeker = new Seeker();
+        private final int[] go = seeker.go;
         private final int[] left = new int[7 * HALLS];
         private final int[] rule = new int[HALLS];
         private final int[] middleWays = new int[TABLE];
@@ -1329,14 +1330,9 @@ public final class NineDemands {
         int ways = 0;
         int nearest = FAR;
 
-        Tally(int[] go, int[] allowed) {
-            this.go = go;
-            this.allowed = allowed;
-        }
-
         void reckon(int[] told) {
             System.arraycopy(told, 0, rule, 0, HALLS);
-            System.arraycopy(allowed, 0, left, 0, HALLS);
+            System.arraycopy(seeker.left, 0, left, 0, HALLS);
             ways = 0;
             nearest = FAR;
             int times = settleFree();

@@ -127,6 +127,7 @@ public final class FaceTests {
             all.add(imports.group(1));
         }
         due(all.equals(List.of("java.util.Arrays")), "imports " + all);
+        due(!Pattern.compile("new [A-Z]\\w*\\([^)]").matcher(source).find(), "rule 12: a maker is handed something");
         methodLengths(source);
     }
 

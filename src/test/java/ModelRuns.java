@@ -1,6 +1,6 @@
 import java.util.Random;
 
-/** Runs of calls by chance (always the same ones), each answer held against PlainVillage. */
+/** Runs of 512 calls by chance (always the same ones), each answer held against PlainVillage. */
 public final class ModelRuns {
     private static final String[] TEXTS = {
         "b|c=1", "a|c=2", "c<3", "c=1|c=2|b>0", "c", "0", "1", "w|c=1|d>1", "c=d", "!(c=d)", "c+d>2",
@@ -11,6 +11,9 @@ public final class ModelRuns {
         "!(c=2&d=3)", "!(c=d)|i=2", "(c+d)%3", "(c+d+i)%3", "(c*d+w)%3", "(c+2*d)%4", "(c+d+a)%3", "s=2|(c+d)%3",
         "s=2|(c+d+i)%3", "!(c=1&d=1)", "!(c=3&d=3)", "!(c=2&d=2)",
     };
+    /** As many as the document lets an object be used for; and what the dearest step of a run may take of them. */
+    private static final int CALLS = 512;
+    private static final int DEAREST = 42;
     private static final String SIGNS = "abcspqrdwi0123456789!()+-*/%&|<=>x ";
 
     private final Random random;
@@ -18,6 +21,7 @@ public final class ModelRuns {
     private final NineDemands program = new NineDemands();
     private final PlainVillage plain = new PlainVillage();
     private String call = "";
+    private int calls = 0;
     private static int wrong = 0;
 
     private ModelRuns(int run) {
@@ -26,6 +30,7 @@ public final class ModelRuns {
     }
 
     private void due(long got, long want) {
+        calls++;
         if (got != want) {
             wrong++;
             System.out.println("run " + run + ": " + call + " answered " + got + ", due is " + want);
@@ -187,10 +192,17 @@ public final class ModelRuns {
 
     private void go() {
         for (int n = pick(2, 7); n > 0; n--) aNewLaw();
-        for (int n = 0; n < 260; n++) aCall();
-        for (int k = 0; k < 7; k++) {
-            call = "told(" + k + ")";
-            due(program.told(k), plain.told(k));
+        while (calls <= CALLS - DEAREST) aCall();
+        for (int k = 0; calls < CALLS; k++) lookedAt(k / 3, k % 3);
+    }
+
+    /** What is left of a run's calls looks at how the village stands at its end. */
+    private void lookedAt(int k, int how) {
+        call = "at the end, " + how + " of " + k;
+        switch (how) {
+            case 0: due(program.told(k % 7), plain.told(k % 7)); break;
+            case 1: due(program.count(k % 7), plain.count(k % 7)); break;
+            default: due(program.chosen(k % 13), plain.chosen(k % 13));
         }
     }
 
